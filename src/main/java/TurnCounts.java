@@ -309,15 +309,12 @@ public final class TurnCounts {
      */
     private static final class Turns {
         static int goal(int turn, int point) {
-            return turn >> placeOf(point) & 7;
+            return turn >> 3 * (MOST_POINTS - 1 - point) & 7;
         }
 
         static int withGoal(int turn, int point, int goal) {
-            return turn & ~(7 << placeOf(point)) | goal << placeOf(point);
-        }
-
-        private static int placeOf(int point) {
-            return 3 * (MOST_POINTS - 1 - point);
+            int place = 3 * (MOST_POINTS - 1 - point);
+            return turn & ~(7 << place) | goal << place;
         }
 
         static int oneThenOther(int one, int other) {
@@ -468,10 +465,11 @@ public final class TurnCounts {
             if (kind == ALL && things >= 2) {
                 widen(Turns.roundTurn(from, 2, width));
             }
-            if (kind == EVEN) {
-                for (int thing = 0; thing + 2 < things; thing++) {
-                    widen(Turns.roundTurn(from + thing * width, 3, width));
-                }
+            if (kind == EVEN && things >= 3) {
+                // A round of an odd number of things is EVEN: of an even number, the first one is left out.
+                int left = things % 2 == 0 ? 1 : 0;
+                widen(Turns.roundTurn(from + left * width, things - left, width));
+                widen(Turns.roundTurn(from, 3, width));
             }
         }
 
@@ -487,9 +485,9 @@ public final class TurnCounts {
             makerCount++;
             int part = size;
             addCopy(part, turn);
-            for (int first = part; first < size && first < MOST_TURNS; first += part) {
+            for (int copy = 1; copy < MOST_TURNS && copy * part < size; copy++) {
                 for (int m = 0; m < makerCount; m++) {
-                    int next = Turns.oneThenOther(turns[first], makers[m]);
+                    int next = Turns.oneThenOther(turns[copy * part], makers[m]);
                     if (!has(next)) {
                         addCopy(part, next);
                     }
@@ -769,10 +767,10 @@ public final class TurnCounts {
 
         int firstToLeast(int number, Group group) {
             int least = leastOf(patternOf[number]);
-            int first = Integer.MAX_VALUE;
+            int first = NONE;
             for (int i = 0; i < group.size; i++) {
                 int turn = group.turns[i];
-                if (turn < first && turned(number, turn) == least) {
+                if ((first == NONE || turn < first) && turned(number, turn) == least) {
                     first = turn;
                 }
             }
