@@ -27,6 +27,7 @@ public final class PromisesTest {
         images();
         count();
         refusedChangesNothing();
+        asThingsAre();
         due.end();
     }
 
@@ -557,6 +558,48 @@ public final class PromisesTest {
         for (int what : new int[] {Integer.MIN_VALUE, -1, 5, 6, 7, 8, 9, 14, Integer.MAX_VALUE}) {
             due.is("20 count(" + what + ")", x.count(what), TurnCounts.OUTSIDE);
         }
+    }
+
+    /** Each call that changes things, between calls that ask for what was reckoned before it. */
+    private static void asThingsAre() {
+        TurnCounts x = made(6, 2);
+        x.image(0);
+        asked(x, "at first", 64, 1, 1, 1);
+        x.beside(6, 4, 0);
+        asked(x, "beside", 7, 11, 20, 5);
+        x.image(1);
+        x.blocks(2, 4, 0);
+        asked(x, "blocks", 27, 4, 8, 1);
+        x.restore(1);
+        asked(x, "restore(1)", 7, 11, 20, 5);
+        x.beside(6, 1, 0);
+        asked(x, "beside, a smaller one", 14, 4, 6, 5);
+        x.restore(0);
+        asked(x, "restore(0)", 64, 1, 1, 1);
+        tell(x, "123450");
+        x.join();
+        asked(x, "join()", 14, 4, 6, 5);
+        x.points(6);
+        asked(x, "points(6)", 64, 1, 1, 1);
+        x.restore(1);
+        due.is("by(32, 0) behind restore(1)", x.by(32, 0), 5);
+        due.is("by(32, 1) behind restore(1)", x.by(32, 1), 0);
+        due.is("type(10, 1) behind restore(1)", x.type(10, 1), 120);
+        x.points(2);
+        due.is("kinds(2) behind more PATTERNS", x.kinds(2), 4);
+        x.points(7);
+        x.beside(7, 4, 0);
+        due.is("kinds(3) of ALL", x.kinds(3), 35);
+        x.points(1);
+        x.sorts(1);
+        due.is("kinds(3) behind more PATTERNS", x.kinds(3), 1);
+    }
+
+    private static void asked(TurnCounts x, String behind, int patterns, int types, int most, int goal) {
+        due.is("patterns(-1) behind " + behind, x.patterns(-1), patterns);
+        due.is("type(-1, 0) behind " + behind, x.type(-1, 0), types);
+        due.is("kinds(3) behind " + behind, x.kinds(3), most);
+        due.is("by(16, 1) behind " + behind, x.by(16, 1), goal);
     }
 
     private static void refusedChangesNothing() {
