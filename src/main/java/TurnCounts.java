@@ -210,7 +210,7 @@ public final class TurnCounts {
             return now.mirrored(number);
         }
         table.bringUp(now);
-        int i = table.patternOf[number];
+        int i = table.patternOf(number);
         if (what == 0) {
             return i;
         }
@@ -432,22 +432,27 @@ public final class TurnCounts {
             add(STAYING);
         }
 
+        /** Rows are copied whole: those of all groups are of one length. */
         void copyFrom(Group other) {
-            System.arraycopy(other.turns, 0, turns, 0, other.size);
+            System.arraycopy(other.turns, 0, turns, 0, turns.length);
             size = other.size;
-            System.arraycopy(other.makers, 0, makers, 0, other.makerCount);
+            System.arraycopy(other.makers, 0, makers, 0, makers.length);
             makerCount = other.makerCount;
             System.arraycopy(other.members, 0, members, 0, members.length);
         }
 
         boolean has(int turn) {
             int rank = Turns.rank(turn);
-            return (members[rank >> 5] >> (rank & 31) & 1) == 1;
+            return isRank(rank) && (members[rank >> 5] >> (rank & 31) & 1) == 1;
+        }
+
+        private static boolean isRank(int rank) {
+            return isWithin(rank, 0, MOST_TURNS - 1);
         }
 
         private void add(int turn) {
-            if (size < turns.length) {
-                int rank = Turns.rank(turn);
+            int rank = Turns.rank(turn);
+            if (size < turns.length && isRank(rank)) {
                 members[rank >> 5] |= 1 << (rank & 31);
                 turns[size] = turn;
                 size++;
@@ -520,7 +525,7 @@ public final class TurnCounts {
         }
     }
 
-    /** All that an IMAGE keeps. SORTS is never below 1, so it may divide. */
+    /** All that an IMAGE keeps. */
     private static final class Setting {
         int many;
         int sortCount;
@@ -552,7 +557,15 @@ public final class TurnCounts {
             return amount;
         }
 
+        /** Whether figures can be read from a NUMBER: SORTS divides it, and each rest is a COLOUR that has a WEIGHT. */
+        private boolean isReadable(int number) {
+            return number >= 0 && isWithin(sortCount, 1, MOST_SORTS);
+        }
+
         int mirrored(int number) {
+            if (!isReadable(number)) {
+                return 0;
+            }
             int rest = number;
             int mirrored = 0;
             for (int point = 0; point < many; point++) {
@@ -563,6 +576,9 @@ public final class TurnCounts {
         }
 
         int weightOf(int number) {
+            if (!isReadable(number)) {
+                return 0;
+            }
             int rest = number;
             int sum = 0;
             for (int point = 0; point < many; point++) {
@@ -573,6 +589,9 @@ public final class TurnCounts {
         }
 
         int coloursOf(int number) {
+            if (!isReadable(number)) {
+                return 0;
+            }
             int rest = number;
             int met = 0;
             for (int point = 0; point < many; point++) {
@@ -662,11 +681,11 @@ public final class TurnCounts {
 
     /** The PATTERNS, with their COLOURINGS one PATTERN behind the other, LEAST of each first. */
     private static final class PatternTable {
-        final int[] patternOf;
+        private final int[] patternNumbers;
         private final int[] colourings;
         /** Where the COLOURINGS of each PATTERN start; behind the last PATTERN, where they end. */
         private final int[] starts;
-        /** What a COLOUR that is one higher at a POINT adds to the NUMBER. */
+        /** What a COLOUR that is one higher at a POINT adds to the NUMBER; a place for each figure to the base 8. */
         private final int[] places;
         private int many;
         private int sortCount;
@@ -675,10 +694,10 @@ public final class TurnCounts {
         boolean upToDate;
 
         PatternTable() {
-            patternOf = new int[MOST_COLOURINGS];
+            patternNumbers = new int[MOST_COLOURINGS];
             colourings = new int[MOST_COLOURINGS];
             starts = new int[MOST_COLOURINGS + 1];
-            places = new int[MOST_POINTS];
+            places = new int[8];
             many = 1;
             sortCount = 1;
             filled = 0;
@@ -691,18 +710,18 @@ public final class TurnCounts {
                 return;
             }
             setPlaces(setting);
-            int total = setting.colourings();
+            int total = Math.min(setting.colourings(), MOST_COLOURINGS);
             for (int number = 0; number < total; number++) {
-                patternOf[number] = NONE;
+                patternNumbers[number] = NONE;
             }
             filled = 0;
             amount = 0;
+            starts[0] = 0;
             for (int number = 0; number < total; number++) {
-                if (patternOf[number] == NONE) {
+                if (patternNumbers[number] == NONE) {
                     gather(number, setting.group);
                 }
             }
-            starts[amount] = filled;
             upToDate = true;
         }
 
@@ -718,26 +737,37 @@ public final class TurnCounts {
 
         /** A PATTERN more, found by its LEAST: all NUMBERS below are of PATTERNS already. */
         private void gather(int least, Group group) {
-            starts[amount] = filled;
+            if (amount >= MOST_COLOURINGS) {
+                return;
+            }
+            int start = filled;
             put(least);
-            for (int at = starts[amount]; at < filled && at < MOST_COLOURINGS; at++) {
+            for (int at = start; at < filled && at < MOST_COLOURINGS; at++) {
                 for (int m = 0; m < group.makerCount; m++) {
-                    int next = turned(colourings[at], group.makers[m]);
-                    if (patternOf[next] == NONE) {
-                        put(next);
-                    }
+                    put(turned(colourings[at], group.makers[m]));
                 }
             }
             amount++;
+            starts[amount] = filled;
         }
 
+        /** A COLOURING more of the newest PATTERN, if it is of none yet. */
         private void put(int number) {
-            patternOf[number] = amount;
-            colourings[filled] = number;
-            filled++;
+            if (isWithin(number, 0, MOST_COLOURINGS - 1) && patternNumbers[number] == NONE && filled < MOST_COLOURINGS) {
+                patternNumbers[number] = amount;
+                colourings[filled] = number;
+                filled++;
+            }
+        }
+
+        int patternOf(int number) {
+            return isWithin(number, 0, MOST_COLOURINGS - 1) ? patternNumbers[number] : NONE;
         }
 
         private int turned(int number, int turn) {
+            if (sortCount < 1) {
+                return NONE;
+            }
             int rest = number;
             int made = 0;
             for (int point = many - 1; point >= 0; point--) {
@@ -748,25 +778,26 @@ public final class TurnCounts {
         }
 
         int leastOf(int i) {
-            return colourings[starts[i]];
+            int start = isWithin(i, 0, amount - 1) ? starts[i] : NONE;
+            return isWithin(start, 0, MOST_COLOURINGS - 1) ? colourings[start] : NONE;
         }
 
         int sizeOf(int i) {
-            return starts[i + 1] - starts[i];
+            return isWithin(i, 0, amount - 1) ? starts[i + 1] - starts[i] : 0;
         }
 
         int twinOf(int i, Setting setting) {
-            return patternOf[setting.mirrored(leastOf(i))];
+            return patternOf(setting.mirrored(leastOf(i)));
         }
 
         /** How many TURNS make a COLOURING of itself: as many make it each other one of its PATTERN. */
         int keepersOf(int number, Group group) {
-            int size = sizeOf(patternOf[number]);
+            int size = sizeOf(patternOf(number));
             return size < 1 ? 0 : group.size / size;
         }
 
         int firstToLeast(int number, Group group) {
-            int least = leastOf(patternOf[number]);
+            int least = leastOf(patternOf(number));
             int first = NONE;
             for (int i = 0; i < group.size; i++) {
                 int turn = group.turns[i];
