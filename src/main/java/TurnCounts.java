@@ -726,7 +726,7 @@ public final class TurnCounts {
         }
 
         private void setPlaces(Setting setting) {
-            many = setting.many;
+            many = Math.min(setting.many, MOST_POINTS);
             sortCount = setting.sortCount;
             int place = 1;
             for (int point = many - 1; point >= 0; point--) {

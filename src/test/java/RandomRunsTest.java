@@ -2,14 +2,17 @@ import java.util.Random;
 
 /** Long runs of mixed calls, the same each time, held against NaiveTurnCounts. */
 public final class RandomRunsTest {
-    private static final int RUNS = 150;
+    private static final int RUNS = 200;
+    /** An object is used for 512 calls at most; telling a whole TURN and joining it takes nine. */
     private static final int CALLS = 512;
+    private static final int MOST_AT_ONCE = 9;
     private static final Due due = new Due();
 
     private final Random random;
     private final TurnCounts x = new TurnCounts();
     private final NaiveTurnCounts y = new NaiveTurnCounts();
     private final String name;
+    private int calls = 0;
 
     private RandomRunsTest(int seed) {
         random = new Random(seed);
@@ -24,8 +27,8 @@ public final class RandomRunsTest {
     }
 
     private void run() {
-        for (int call = 0; call < CALLS; call++) {
-            one(call);
+        while (calls + MOST_AT_ONCE <= CALLS) {
+            one();
         }
     }
 
@@ -44,7 +47,7 @@ public final class RandomRunsTest {
         return pick(0, total - 1);
     }
 
-    private void one(int call) {
+    private void one() {
         int a;
         int b;
         int c;
@@ -52,102 +55,102 @@ public final class RandomRunsTest {
             case 0:
                 if (random.nextInt(3) != 0) return;
                 a = pick(1, 7);
-                is(call, "points " + a, x.points(a), y.points(a));
+                is("points " + a, x.points(a), y.points(a));
                 break;
             case 1:
                 a = pick(0, y.count(0));
                 b = pick(0, 4);
                 c = pick(0, 4);
-                is(call, "beside " + a + " " + b + " " + c, x.beside(a, b, c), y.beside(a, b, c));
+                is("beside " + a + " " + b + " " + c, x.beside(a, b, c), y.beside(a, b, c));
                 break;
             case 2:
                 a = pick(1, y.count(0));
                 b = pick(0, 4);
                 c = pick(0, 4);
-                is(call, "blocks " + a + " " + b + " " + c, x.blocks(a, b, c), y.blocks(a, b, c));
+                is("blocks " + a + " " + b + " " + c, x.blocks(a, b, c), y.blocks(a, b, c));
                 break;
             case 3:
             case 4:
-                tellTurn(call);
+                tellTurn();
                 break;
             case 5:
-                is(call, "join", x.join(), y.join());
+                is("join", x.join(), y.join());
                 break;
             case 6:
                 a = pick(random.nextBoolean() ? 33 : 48, random.nextBoolean() ? 126 : 55);
-                is(call, "say " + a, x.say(a), y.say(a));
+                is("say " + a, x.say(a), y.say(a));
                 break;
             case 7:
-                is(call, "wipe", x.wipe(), y.wipe());
+                is("wipe", x.wipe(), y.wipe());
                 break;
             case 8:
                 a = pick(0, 2);
-                is(call, "turn " + a, x.turn(a), y.turn(a));
+                is("turn " + a, x.turn(a), y.turn(a));
                 break;
             case 9:
             case 10:
                 a = pick(-1, 15);
                 b = pick(0, 1);
-                is(call, "type " + a + " " + b, x.type(a, b), y.type(a, b));
+                is("type " + a + " " + b, x.type(a, b), y.type(a, b));
                 break;
             case 11:
                 a = pick(0, y.count(0) - 1);
                 b = pick(0, 1);
-                is(call, "orbit " + a + " " + b, x.orbit(a, b), y.orbit(a, b));
+                is("orbit " + a + " " + b, x.orbit(a, b), y.orbit(a, b));
                 break;
             case 12:
                 a = pick(1, 4);
-                is(call, "sorts " + a, x.sorts(a), y.sorts(a));
+                is("sorts " + a, x.sorts(a), y.sorts(a));
                 break;
             case 13:
                 a = pick(0, 3);
                 b = pick(0, 9);
-                is(call, "weight " + a + " " + b, x.weight(a, b), y.weight(a, b));
+                is("weight " + a + " " + b, x.weight(a, b), y.weight(a, b));
                 break;
             case 14:
             case 15:
                 a = random.nextBoolean() ? pick(-1, 63) : pick(-1, 12);
-                is(call, "patterns " + a, x.patterns(a), y.patterns(a));
+                is("patterns " + a, x.patterns(a), y.patterns(a));
                 break;
             case 16:
             case 17:
                 a = pick(0, Math.max(0, y.patterns(-1)));
                 b = pick(0, 4);
-                is(call, "pattern " + a + " " + b, x.pattern(a, b), y.pattern(a, b));
+                is("pattern " + a + " " + b, x.pattern(a, b), y.pattern(a, b));
                 break;
             case 18:
             case 19:
                 a = number();
                 b = pick(0, 3);
-                is(call, "of " + a + " " + b, x.of(a, b), y.of(a, b));
+                is("of " + a + " " + b, x.of(a, b), y.of(a, b));
                 break;
             case 20:
                 a = pick(0, 3);
-                is(call, "kinds " + a, x.kinds(a), y.kinds(a));
+                is("kinds " + a, x.kinds(a), y.kinds(a));
                 break;
             case 21:
             case 22:
                 a = number();
                 b = pick(0, y.count(0) - 1);
-                is(call, "by " + a + " " + b, x.by(a, b), y.by(a, b));
+                is("by " + a + " " + b, x.by(a, b), y.by(a, b));
                 break;
             case 23:
                 a = pick(0, 1);
-                is(call, "image " + a, x.image(a), y.image(a));
+                is("image " + a, x.image(a), y.image(a));
                 break;
             case 24:
                 a = pick(0, 1);
-                is(call, "restore " + a, x.restore(a), y.restore(a));
+                is("restore " + a, x.restore(a), y.restore(a));
                 break;
             default:
                 a = random.nextBoolean() ? pick(0, 4) : pick(10, 13);
-                is(call, "count " + a, x.count(a), y.count(a));
+                is("count " + a, x.count(a), y.count(a));
         }
     }
 
     /** A whole TURN on THE PAD, of few changes, so that joining makes small groups, too. */
-    private void tellTurn(int call) {
-        is(call, "wipe", x.wipe(), y.wipe());
+    private void tellTurn() {
+        is("wipe", x.wipe(), y.wipe());
         int many = y.count(0);
         int[] goals = new int[many];
         for (int i = 0; i < many; i++) goals[i] = i;
@@ -159,11 +162,12 @@ public final class RandomRunsTest {
             goals[p] = goals[q];
             goals[q] = goal;
         }
-        for (int goal : goals) is(call, "say", x.say('0' + goal), y.say('0' + goal));
-        if (random.nextBoolean()) is(call, "join", x.join(), y.join());
+        for (int goal : goals) is("say", x.say('0' + goal), y.say('0' + goal));
+        if (random.nextBoolean()) is("join", x.join(), y.join());
     }
 
-    private void is(int call, String what, int got, int want) {
-        due.is(name + call + ": " + what, got, want);
+    private void is(String what, int got, int want) {
+        calls++;
+        due.is(name + calls + ": " + what, got, want);
     }
 }
