@@ -35,9 +35,7 @@ final class Edges {
 
     /** A call is refused, and behind it all that is told is as on an object on which it was not called. */
     void refused(int refusal, String name, Supplier<TurnCounts> state, Call call) {
-        TurnCounts touched = state.get();
-        due.is(name, call.on(touched), refusal);
-        unchanged(name, touched, state.get());
+        tells(refusal, name, state, call);
     }
 
     /** A call that only tells leaves all as it was. */
