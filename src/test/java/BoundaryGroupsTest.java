@@ -1,4 +1,3 @@
-import java.util.ArrayList;
 import java.util.List;
 import java.util.function.Supplier;
 
@@ -81,7 +80,7 @@ public final class BoundaryGroupsTest {
         due.is("1 POINT 4", x.orbit(4, 0), UNKNOWN);
         due.is("1 the TYPE", x.type(0, 0), 1111);
         due.is("1 one TYPE", x.type(-1, 0), 1);
-        for (String turn : allTurns(4)) {
+        for (String turn : States.allTurns(4)) {
             due.is("1 has " + turn, has(States::bare, turn), turn.equals("0123") ? 1 : 0);
         }
     }
@@ -168,11 +167,11 @@ public final class BoundaryGroupsTest {
     private static void kindsHaveJustTheirTurns() {
         for (int n = 1; n <= 5; n++) {
             for (int kind = STILL; kind <= ALL; kind++) {
-                for (String turn : allTurns(n)) {
+                for (String turn : States.allTurns(n)) {
                     Supplier<TurnCounts> state = besideState(n, n, kind, STILL);
                     due.is("KIND " + kind + " has " + turn, has(state, turn), isOfKind(kind, turn) ? 1 : 0);
                 }
-                for (String turn : allTurns(n)) {
+                for (String turn : States.allTurns(n)) {
                     kindBehindOthersHas(kind, n, turn);
                 }
             }
@@ -565,7 +564,7 @@ public final class BoundaryGroupsTest {
             due.is("8 TYPE of " + turns[i], x.turn(1), types[i]);
             due.is("8 how often " + turns[i], x.turn(2), times[i]);
         }
-        for (String turn : allTurns(6)) {
+        for (String turn : States.allTurns(6)) {
             TurnCounts x = States.made(6, 2);
             States.tell(x, turn);
             due.is("8 TYPE of " + turn, x.turn(1), typeOf(turn));
@@ -753,24 +752,6 @@ public final class BoundaryGroupsTest {
         }
         boolean[] is = {same == n, round, round || flipped, changed % 2 == 0, true};
         return is[kind];
-    }
-
-    private static List<String> allTurns(int n) {
-        List<String> all = new ArrayList<>();
-        addTurns(all, "", n);
-        return all;
-    }
-
-    private static void addTurns(List<String> all, String begun, int n) {
-        if (begun.length() == n) {
-            all.add(begun);
-            return;
-        }
-        for (int goal = 0; goal < n; goal++) {
-            if (begun.indexOf('0' + goal) < 0) {
-                addTurns(all, begun + goal, n);
-            }
-        }
     }
 
     private static int cycleLength(String turn, int point) {

@@ -88,7 +88,8 @@ final class Probe {
         }
     }
 
-    private static int[] some(int amount) {
+    /** Which of so many NUMBERS or PATTERNS are asked for: few enough that an object has 512 calls at most. */
+    static int[] some(int amount) {
         if (amount > FEW) {
             return new int[] {0, 1, 2, 5, amount / 3, amount / 2, amount - 2, amount - 1};
         }

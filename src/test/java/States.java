@@ -1,4 +1,7 @@
-/** Objects in the states that refused calls are tried in. */
+import java.util.ArrayList;
+import java.util.List;
+
+/** Objects in the states that calls are tried in, and what brings them there. */
 final class States {
     private States() {
     }
@@ -79,5 +82,24 @@ final class States {
             power *= base;
         }
         return power;
+    }
+
+    /** All TURNS of so many POINTS, each as the signs that tell it. */
+    static List<String> allTurns(int n) {
+        List<String> all = new ArrayList<>();
+        addTurns(all, "", n);
+        return all;
+    }
+
+    private static void addTurns(List<String> all, String begun, int n) {
+        if (begun.length() == n) {
+            all.add(begun);
+            return;
+        }
+        for (int goal = 0; goal < n; goal++) {
+            if (begun.indexOf('0' + goal) < 0) {
+                addTurns(all, begun + goal, n);
+            }
+        }
     }
 }
